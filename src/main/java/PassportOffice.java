@@ -63,7 +63,7 @@ public final class PassportOffice {
         return text;
     }
 
-    public int law(int from) {
+    public int law(int from) throws IllegalArgumentException, UnsupportedOperationException {
         int[] text = useTapeUp();
         demand(from >= office.today && from <= LAST_DAY);
         Law told = new Law(from, text);
@@ -91,7 +91,8 @@ public final class PassportOffice {
 
     // ---- people
 
-    public int person(int born, boolean abroad, int a, int b, int c, int d, int e) {
+    public int person(int born, boolean abroad, int a, int b, int c, int d, int e)
+            throws IllegalArgumentException, UnsupportedOperationException {
         demand(born >= FIRST_BIRTH && born <= office.today);
         demand(isFace(a) && isFace(b) && isFace(c) && isFace(d) && isFace(e));
         if (people.all.size() >= MOST_PEOPLE) throw new UnsupportedOperationException();
@@ -105,7 +106,7 @@ public final class PassportOffice {
         return number >= 0 && number <= 99;
     }
 
-    public int name(int person) {
+    public int name(int person) throws IndexOutOfBoundsException, IllegalArgumentException {
         int[] text = useTapeUp();
         Person one = personAt(person);
         fault = Name.firstWrong(text);
@@ -114,23 +115,24 @@ public final class PassportOffice {
         return one.name.length;
     }
 
-    public int sign(int person, int i) {
+    public int sign(int person, int i) throws IndexOutOfBoundsException {
         Name name = personAt(person).name;
         if (name == null || i < 0 || i >= Name.SIGNS) return NONE;
         return name.signs[i];
     }
 
-    public int figure(int person) {
+    public int figure(int person) throws IndexOutOfBoundsException {
         Name name = personAt(person).name;
         return name == null ? NONE : name.checkFigure();
     }
 
-    public int far(int a, int b) {
+    public int far(int a, int b) throws IndexOutOfBoundsException {
         Person one = personAt(a);
         return one.farFrom(personAt(b));
     }
 
-    public int tell(int a, int b, boolean same) {
+    public int tell(int a, int b, boolean same)
+            throws IndexOutOfBoundsException, IllegalArgumentException {
         Person one = personAt(a);
         Person other = personAt(b);
         demand(a != b);
@@ -140,7 +142,8 @@ public final class PassportOffice {
 
     // ---- askings
 
-    public int judge(int person, int kind, int wanted, boolean urgent, int what) {
+    public int judge(int person, int kind, int wanted, boolean urgent, int what)
+            throws IndexOutOfBoundsException, IllegalArgumentException, NoSuchElementException {
         Person one = personAt(person);
         demand(isKind(kind) && isWanted(wanted));
         Verdict verdict = verdictOf(one, kind, wanted, urgent);
@@ -184,7 +187,8 @@ public final class PassportOffice {
         return law.verdictOn(facts);
     }
 
-    public int ask(int person, int kind, int wanted, int items, boolean urgent) {
+    public int ask(int person, int kind, int wanted, int items, boolean urgent)
+            throws IndexOutOfBoundsException, IllegalArgumentException, UnsupportedOperationException {
         Person one = personAt(person);
         demand(isKind(kind) && isWanted(wanted) && isItems(items));
         if (office.askings.size() >= MOST_ASKINGS) throw new UnsupportedOperationException();
@@ -196,7 +200,8 @@ public final class PassportOffice {
         return asking.number;
     }
 
-    public int give(int asking, int items) {
+    public int give(int asking, int items)
+            throws IndexOutOfBoundsException, IllegalArgumentException, IllegalStateException {
         Asking one = askingAt(asking);
         demand(isItems(items));
         allow(one.state == Asking.BACK);
@@ -205,27 +210,27 @@ public final class PassportOffice {
         return one.lackingItems();
     }
 
-    public void refuse(int asking) {
+    public void refuse(int asking) throws IndexOutOfBoundsException, IllegalStateException {
         Asking one = askingAt(asking);
         allow(one.isOpen());
         one.state = Asking.REFUSED;
     }
 
-    public void lose(int asking) {
+    public void lose(int asking) throws IndexOutOfBoundsException, IllegalStateException {
         Asking one = askingAt(asking);
         allow(one.state == Asking.IN_POST);
         one.state = Asking.LOST;
         office.endBooklet(one.booklet);
     }
 
-    public void again(int asking) {
+    public void again(int asking) throws IndexOutOfBoundsException, IllegalStateException {
         Asking one = askingAt(asking);
         allow(one.state == Asking.LOST);
         one.state = Asking.TO_PRINT;
         one.comes = NONE;
     }
 
-    public int led(int asking, int what) {
+    public int led(int asking, int what) throws IndexOutOfBoundsException, NoSuchElementException {
         Asking one = askingAt(asking);
         switch (what) {
             case 0: return one.state;
@@ -250,13 +255,14 @@ public final class PassportOffice {
 
     // ---- desks and days
 
-    public void hands(int desk, int n) {
+    public void hands(int desk, int n) throws IndexOutOfBoundsException, IllegalArgumentException {
         checkDesk(desk);
         demand(n >= 0 && n <= 30);
         desks.setHands(desk, n);
     }
 
-    public int lend(int desk, int n, int from, int to, int training) {
+    public int lend(int desk, int n, int from, int to, int training)
+            throws IndexOutOfBoundsException, IllegalArgumentException {
         checkDesk(desk);
         demand(n >= 1 && n <= 30);
         demand(from >= office.today && to >= from && to <= LAST_DAY);
@@ -266,12 +272,13 @@ public final class PassportOffice {
         return desks.lent.size();
     }
 
-    public int units(int desk, int day) {
+    public int units(int desk, int day) throws IndexOutOfBoundsException {
         checkDesk(desk);
         return desks.unitsOn(desk, day);
     }
 
-    public void rules(int patience, int limit, int doubt, int home, int abroad) {
+    public void rules(int patience, int limit, int doubt, int home, int abroad)
+            throws IllegalArgumentException {
         demand(patience >= 1 && patience <= 200);
         demand(limit >= 0 && limit <= 10000);
         demand(doubt >= 0 && doubt <= 1000);
@@ -283,7 +290,7 @@ public final class PassportOffice {
         rules.abroad = abroad;
     }
 
-    public void order(int rule) {
+    public void order(int rule) throws IllegalArgumentException {
         demand(isOrder(rule));
         office.order = rule;
     }
@@ -292,37 +299,37 @@ public final class PassportOffice {
         return rule >= 0 && rule < ORDERS;
     }
 
-    public int blanks(int n) {
+    public int blanks(int n) throws IllegalArgumentException {
         demand(n >= 0 && n <= 1000 && office.blanks + n <= MOST_BLANKS);
         office.blanks += n;
         return office.blanks;
     }
 
-    public void broken(int from, int to) {
+    public void broken(int from, int to) throws IllegalArgumentException {
         demand(from <= to);
         rules.brokenFrom = from;
         rules.brokenTo = to;
     }
 
-    public int days(int n) {
+    public int days(int n) throws IllegalArgumentException {
         demand(n >= 0 && n <= 60);
         for (int i = 0; i < n && office.today < LAST_DAY; i++) office.passDay();
         return office.today;
     }
 
-    public int queue(int desk) {
+    public int queue(int desk) throws IndexOutOfBoundsException {
         checkDesk(desk);
         return office.countIn(Desks.STATE_AT[desk]);
     }
 
-    public int ahead(int asking) {
+    public int ahead(int asking) throws IndexOutOfBoundsException {
         return office.countAhead(askingAt(asking));
     }
 
     // ---- booklets, waits, counts
 
-    public int booklet(int booklet, int what) {
-        if (booklet < 0 || booklet >= office.printed) throw new IndexOutOfBoundsException();
+    public int booklet(int booklet, int what)
+            throws IndexOutOfBoundsException, NoSuchElementException {
         Booklet one = office.bookletAt(booklet);
         if (one == null) throw new IndexOutOfBoundsException();
         switch (what) {
@@ -334,11 +341,11 @@ public final class PassportOffice {
         }
     }
 
-    public int valid(int person, int day) {
+    public int valid(int person, int day) throws IndexOutOfBoundsException {
         return office.validOf(personAt(person), day);
     }
 
-    public int missed(int rule, int n) {
+    public int missed(int rule, int n) throws IllegalArgumentException {
         demand(isOrder(rule) && n >= 0 && n <= 60);
         trial.copyFrom(office);
         trial.order = rule;
@@ -352,7 +359,7 @@ public final class PassportOffice {
         return missed;
     }
 
-    public int waits(int kind, boolean most) {
+    public int waits(int kind, boolean most) throws IllegalArgumentException {
         demand(isKind(kind));
         int[] waits = latestWaits(kind);
         if (waits.length == 0) return NONE;

@@ -273,5 +273,8 @@ final class AskingsTest {
         twice.again(0);
         twice.days(4);
         Check.same("back once", 8, twice.count(10));
+        twice.ask(1, 0, 5, 0, false);
+        twice.days(3);
+        Check.same("and of another one", 16, twice.count(10));
     }
 }

@@ -51,9 +51,16 @@ final class Check {
             call.run();
         } catch (RuntimeException e) {
             if (e.getClass() != due) tell(what + " threw " + e.getClass().getName() + ", due is " + due.getName());
+            if (!isThrownByTheProgram(e)) tell(what + " was thrown by the machine or the library");
             return;
         }
         tell(what + " threw nothing, due is " + due.getName());
+    }
+
+    /** A list throws the same exception as the document asks for: who threw it is seen by the place. */
+    static boolean isThrownByTheProgram(RuntimeException e) {
+        StackTraceElement[] places = e.getStackTrace();
+        return places.length == 0 || places[0].getClassName().startsWith("PassportOffice");
     }
 
     private static void tell(String text) {

@@ -398,6 +398,12 @@ final class DesksTest {
         x.days(1);
         Check.same("8 less 2", 3, x.count(3) - 3 - x.queue(0));
         Check.same("no unit of another desk", 0 + 2 + 8 + 8, x.count(14));
+        PassportOffice w = start(3);
+        for (int i = 0; i < 3; i++) w.ask(i, 0, 90, 0, false);
+        w.days(20);
+        Check.same("20 days are patience at first", 0, w.count(12));
+        w.days(1);
+        Check.same("21 are more", 1, w.count(12));
         PassportOffice y = start(30);
         y.rules(1, 30, 10, 2, 9);
         y.hands(0, 1);

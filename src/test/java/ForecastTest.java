@@ -5,6 +5,7 @@ final class ForecastTest {
         promise31Rules();
         promise31ChangesNothing();
         promise31BeyondTheLastDay();
+        promise31Booklets();
         promise32Waits();
         promise32LastTwenty();
         promise34Count();
@@ -106,6 +107,31 @@ final class ForecastTest {
         Check.same("on the last day", 1, x.missed(0, 0));
         Check.same("beyond it", 1, x.missed(0, 60));
         Check.same("the last day", 1000, x.count(0));
+    }
+
+    /** 150 booklets are the most for those that are tried out, too, each time anew. */
+    private static void promise31Booklets() {
+        PassportOffice x = start(9);
+        for (int desk = 0; desk < 4; desk++) x.hands(desk, 30);
+        x.lend(1, 30, 0, 1000, 0);
+        x.rules(20, 30, 10, 1, 9);
+        for (int i = 0; i < 100; i++) x.ask(i % 9, 3, 50, 0, false);
+        x.days(1);
+        for (int i = 0; i < 40; i++) {
+            x.lose(i);
+            x.again(i);
+        }
+        for (int k = 0; k < 20; k++) Check.same("40 more are printed", 0, x.missed(0, 60));
+        x.days(1);
+        for (int i = 40; i < 50; i++) x.lose(i - 40);
+        for (int i = 0; i < 10; i++) x.again(i);
+        for (int i = 0; i < 3; i++) x.ask(i, 3, 50, 0, true);
+        Check.same("140", 140, x.count(7));
+        Check.same("ten of 13 are printed, the urgent ones first", 3, x.missed(0, 60));
+        Check.same("the same again", 3, x.missed(0, 60));
+        x.days(3);
+        Check.same("so it comes", 3, x.queue(3));
+        Check.same("150", 150, x.count(7));
     }
 
     private static void promise32Waits() {

@@ -109,6 +109,11 @@ final class JudgeTest {
         }
         Check.same("urgent", 1, see("urgent", 0, 0, 0, true));
         Check.same("not urgent", 0, see("urgent", 0, 0, 0, false));
+        Check.same("urgent as a number", 1, see("urgent>0 and urgent<2", 0, 0, 0, true));
+        for (int kind = 0; kind < 4; kind++) {
+            Check.same(kinds[kind] + " as a number", 1, see(kinds[kind] + ">0 and " + kinds[kind] + "<2", 0, kind, 0, false));
+            Check.same("not " + kinds[kind] + " as a number", 0, see(kinds[kind] + ">0", 0, (kind + 1) % 4, 0, false));
+        }
     }
 
     private static void promise12Conditions() {

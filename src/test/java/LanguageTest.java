@@ -25,12 +25,13 @@ final class LanguageTest {
     }
 
     private static void methodsAreShort(String source) {
-        int begun = 0;
+        int begun = 1;
         int number = 0;
         String indent = "";
         for (String line : source.lines().toList()) {
             number++;
-            if (line.matches(" +[A-Za-z].*\\) \\{") && !line.matches(" +(if|for|while|switch|else|do)\\b.*")) {
+            boolean control = line.matches(" +(if|for|while|switch|else|do|return|throw)\\b.*");
+            if (!control && line.matches("( {4}| {8})[A-Za-z][\\w<> ]*\\(.*[^;]")) {
                 begun = number;
                 indent = line.replaceAll("\\S.*", "");
             }

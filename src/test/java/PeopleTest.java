@@ -93,6 +93,13 @@ final class PeopleTest {
         Check.same("refused", 9, y.led(0, 0));
         Check.same("refused", 9, y.led(1, 0));
 
+        PassportOffice w = new PassportOffice();
+        w.person(-9000, false, 0, 0, 0, 0, 0);
+        w.person(-9000, false, 5, 2, 1, 1, 0);
+        Check.same("one more than the first limit", 31, w.far(0, 1));
+        w.ask(0, 0, 50, 0, false);
+        w.days(1);
+        Check.same("not near", 5, w.led(0, 0));
         PassportOffice z = new PassportOffice();
         z.person(-9000, false, 0, 0, 0, 0, 0);
         z.person(-9000, false, 31, 0, 0, 0, 0);

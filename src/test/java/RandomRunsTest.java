@@ -45,6 +45,7 @@ final class RandomRunsTest {
         try {
             return call.run();
         } catch (RuntimeException e) {
+            if (!Check.isThrownByTheProgram(e)) throw e;
             if (e.getClass() == IndexOutOfBoundsException.class) return Model.INDEX;
             if (e.getClass() == IllegalArgumentException.class) return Model.ARGUMENT;
             if (e.getClass() == IllegalStateException.class) return Model.STATE;

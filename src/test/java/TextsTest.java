@@ -97,6 +97,7 @@ final class TextsTest {
             "see if (((((((((age)))))))))", "see if ((((((((not age))))))))", "see if not (((((((not not age)))))))",
             "see if ageand first", "see if age andfirst", "see if age=5", "see if age<5x", "see if AGE", "see if age<=5",
             "\u00e9", "see if not not not not (not not not (not age))", "feE 5",
+            "needz deed", "zneed deed", "see ifa", "see if agez", "see if a", "seea",
         };
         int[] faults = {
             4, 5, 11, 5, 5, 5, 0, 0, 5,
@@ -108,6 +109,7 @@ final class TextsTest {
             15, 15, 18,
             7, 11, 10, 12, 7, 11,
             0, 36, 0,
+            0, 0, 4, 7, 7, 0,
         };
         for (int i = 0; i < wrong.length; i++) {
             PassportOffice x = new PassportOffice();
