@@ -2,6 +2,7 @@
 final class Check {
     private static int wrong = 0;
     private static int made = 0;
+    private static String head = "";
 
     private Check() {
     }
@@ -60,12 +61,17 @@ final class Check {
     /** A list throws the same exception as the document asks for: who threw it is seen by the place. */
     static boolean isThrownByTheProgram(RuntimeException e) {
         StackTraceElement[] places = e.getStackTrace();
-        return places.length == 0 || places[0].getClassName().startsWith("PassportOffice");
+        return places.length > 0 && places[0].getClassName().startsWith("PassportOffice");
+    }
+
+    /** What is checked from now on, told ahead of each wrong answer. */
+    static void under(String text) {
+        head = text.isEmpty() ? "" : "[" + text + "] ";
     }
 
     private static void tell(String text) {
         wrong++;
-        if (wrong <= 50) System.out.println(text);
+        if (wrong <= 50) System.out.println(head + text);
     }
 
     /** Ends a test: exit code 1 if an answer was wrong. */
