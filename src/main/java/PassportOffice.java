@@ -17,11 +17,14 @@ public final class PassportOffice {
     private static final int KINDS = 4;
     private static final int ORDERS = 3;
     private static final int WAITS_LOOKED_AT = 20;
+    /** No wait is as long as this. */
+    private static final int KEPT_FOR_A_WAIT = 1024;
 
     private final int[] tape = new int[MOST_BYTES];
     private int tapeLength = 0;
     private int fault = NONE;
     private final ArrayList<Law> laws = new ArrayList<Law>();
+    private final Law noLaw = new Law(NONE, new int[0]);
     private final People people = new People();
     private final Desks desks = new Desks();
     private final Rules rules = new Rules();
@@ -79,12 +82,11 @@ public final class PassportOffice {
         return fault;
     }
 
-    /** The law of a day, or null ahead of any. */
-    private Law lawOf(int day) {
-        Law latest = null;
+    private Law lawOfToday() {
+        Law latest = noLaw;
         for (int i = 0; i < laws.size(); i++) {
             Law law = laws.get(i);
-            if (law.from <= day && (latest == null || law.from >= latest.from)) latest = law;
+            if (law.from <= office.today && law.from >= latest.from) latest = law;
         }
         return latest;
     }
@@ -136,7 +138,8 @@ public final class PassportOffice {
         Person one = personAt(a);
         Person other = personAt(b);
         demand(a != b);
-        people.put(one, other, same ? People.SAME : People.OTHER);
+        one.putTold(other, same ? People.SAME : People.OTHER);
+        other.putTold(one, same ? People.SAME : People.OTHER);
         return office.checkHeldAgain();
     }
 
@@ -146,7 +149,7 @@ public final class PassportOffice {
             throws IndexOutOfBoundsException, IllegalArgumentException, NoSuchElementException {
         Person one = personAt(person);
         demand(isKind(kind) && isWanted(wanted));
-        Verdict verdict = verdictOf(one, kind, wanted, urgent);
+        Verdict verdict = lawOfToday().verdictOn(factsOf(one, kind, wanted, urgent));
         switch (what) {
             case 0: return verdict.needs;
             case 1: return verdict.fee;
@@ -170,9 +173,8 @@ public final class PassportOffice {
         return items >= 0 && items <= 255;
     }
 
-    private Verdict verdictOf(Person one, int kind, int wanted, boolean urgent) {
-        Law law = lawOf(office.today);
-        if (law == null) return new Verdict();
+    /** What a law may ask of an asking that comes today, in the order of Law.FACT_WORDS. */
+    private int[] factsOf(Person one, int kind, int wanted, boolean urgent) {
         int[] facts = {
             (office.today - one.born) / 365,
             wanted - office.today,
@@ -184,7 +186,7 @@ public final class PassportOffice {
             kind == Asking.SECOND ? 1 : 0,
             urgent ? 1 : 0
         };
-        return law.verdictOn(facts);
+        return facts;
     }
 
     public int ask(int person, int kind, int wanted, int items, boolean urgent)
@@ -192,11 +194,12 @@ public final class PassportOffice {
         Person one = personAt(person);
         demand(isKind(kind) && isWanted(wanted) && isItems(items));
         if (office.askings.size() >= MOST_ASKINGS) throw new UnsupportedOperationException();
-        Asking asking = new Asking(office.askings.size(), one, kind, office.today, wanted, urgent,
-            verdictOf(one, kind, wanted, urgent));
+        Verdict verdict = lawOfToday().verdictOn(factsOf(one, kind, wanted, urgent));
+        Asking asking =
+            new Asking(office.askings.size(), one, kind, office.today, wanted, urgent, verdict);
         asking.items = items;
         office.askings.add(asking);
-        office.feesTaken += asking.verdict.fee;
+        office.feesTaken += verdict.fee;
         return asking.number;
     }
 
@@ -362,33 +365,32 @@ public final class PassportOffice {
     public int waits(int kind, boolean most) throws IllegalArgumentException {
         demand(isKind(kind));
         int[] waits = latestWaits(kind);
-        if (waits.length == 0) return NONE;
         int leftOut = waits.length / 10;
-        return waits[most ? waits.length - 1 - leftOut : leftOut];
+        int place = most ? waits.length - 1 - leftOut : leftOut;
+        return place >= 0 && place < waits.length ? waits[place] : NONE;
     }
 
     /** The waits of the last askings of a kind that were got, by size. */
     private int[] latestWaits(int kind) {
+        // a key is the day, the number and the wait in one: sorting keys sorts by the day, then by number
         int[] keys = new int[office.askings.size()];
         int n = 0;
-        for (int i = 0; i < keys.length; i++) {
+        for (int i = 0; i < keys.length && n < keys.length; i++) {
             Asking one = office.askings.get(i);
             if (one.kind == kind && one.state == Asking.GOT) {
-                keys[n] = one.got * MOST_ASKINGS + i;
+                keys[n] = (one.got * MOST_ASKINGS + i) * KEPT_FOR_A_WAIT + one.waitedDays();
                 n++;
             }
         }
         sort(keys, n);
-        int[] waits = new int[Math.min(n, WAITS_LOOKED_AT)];
-        for (int i = 0; i < waits.length; i++) {
-            waits[i] = office.askings.get(keys[n - waits.length + i] % MOST_ASKINGS).waitedDays();
-        }
+        int[] waits = Arrays.copyOfRange(keys, Math.max(0, n - WAITS_LOOKED_AT), n);
+        for (int i = 0; i < waits.length; i++) waits[i] %= KEPT_FOR_A_WAIT;
         sort(waits, waits.length);
         return waits;
     }
 
     private static void sort(int[] row, int n) {
-        for (int i = 1; i < n; i++) {
+        for (int i = 1; i < n && i < row.length; i++) {
             int number = row[i];
             int place = i;
             for (; place > 0 && row[place - 1] > number; place--) row[place] = row[place - 1];
@@ -417,16 +419,11 @@ public final class PassportOffice {
             case 12: return office.allCalls;
             case 13: return desks.lent.size();
             case 14: return office.unitsLeft;
-            case 15: return clausesOfToday();
+            case 15: return lawOfToday().clauses;
             case 16: return office.countIn(Asking.REFUSED);
             case 17: return office.countIn(Asking.LOST);
             default: return NONE;
         }
-    }
-
-    private int clausesOfToday() {
-        Law law = lawOf(office.today);
-        return law == null ? 0 : law.clauses;
     }
 
     // ---- what the calls demand
@@ -686,15 +683,14 @@ public final class PassportOffice {
         final boolean abroad;
         Name name = null;
         private final int[] face;
-        // what was told of this one with each of those of a lower number
-        private final int[] toldOfLower;
+        // what was told of this one with each other
+        private final int[] told = new int[MOST_PEOPLE];
 
         Person(int number, int born, boolean abroad, int[] face) {
             this.number = number;
             this.born = born;
             this.abroad = abroad;
             this.face = face;
-            this.toldOfLower = new int[Math.max(0, number)];
         }
 
         int farFrom(Person other) {
@@ -706,12 +702,13 @@ public final class PassportOffice {
             return sum;
         }
 
-        void putTold(int lower, int told) {
-            if (lower >= 0 && lower < toldOfLower.length) toldOfLower[lower] = told;
+        void putTold(Person other, int what) {
+            if (other.number >= 0 && other.number < told.length) told[other.number] = what;
         }
 
-        int toldWith(int lower) {
-            return lower >= 0 && lower < toldOfLower.length ? toldOfLower[lower] : People.UNTOLD;
+        int toldWith(Person other) {
+            boolean kept = other.number >= 0 && other.number < told.length;
+            return kept ? told[other.number] : People.UNTOLD;
         }
     }
 
@@ -788,7 +785,7 @@ public final class PassportOffice {
         }
     }
 
-    /** All people, and what was told of two of them. */
+    /** All people. */
     private static final class People {
         static final int UNTOLD = 0;
         static final int SAME = 1;
@@ -796,21 +793,12 @@ public final class PassportOffice {
 
         final ArrayList<Person> all = new ArrayList<Person>();
 
-        void put(Person one, Person other, int told) {
-            if (one.number > other.number) one.putTold(other.number, told);
-            else other.putTold(one.number, told);
-        }
-
-        private static int toldOf(Person one, Person other) {
-            if (one.number > other.number) return one.toldWith(other.number);
-            return other.toldWith(one.number);
-        }
-
         /** Whether one is near somebody of whom, with this one, just that was told. */
         boolean isNearOne(Person one, int told, int limit) {
             for (int i = 0; i < all.size(); i++) {
                 Person other = all.get(i);
-                if (i != one.number && toldOf(one, other) == told && one.farFrom(other) <= limit) {
+                boolean isTold = i != one.number && one.toldWith(other) == told;
+                if (isTold && one.farFrom(other) <= limit) {
                     return true;
                 }
             }
