@@ -8,6 +8,7 @@ final class ForecastTest {
         promise31Booklets();
         promise32Waits();
         promise32LastTwenty();
+        promise32LongWaits();
         promise34Count();
         Check.close();
     }
@@ -203,6 +204,26 @@ final class ForecastTest {
         for (int i = 4; i < 24; i++) z.ask(i, 0, 1000, 0, false);
         z.days(20);
         Check.same("by the day ahead of the number", 21, z.waits(0, true));
+    }
+
+    private static void promise32LongWaits() {
+        PassportOffice x = start(24);
+        for (int desk : new int[] {0, 1, 3}) x.hands(desk, 30);
+        x.hands(2, 0);
+        Check.law(x, 0, "see if renew");
+        x.rules(200, 30, 10, 6, 6);
+        for (int i = 0; i < 3; i++) x.ask(i, 0, 1000, 0, false);
+        x.ask(3, 1, 1000, 0, false);
+        Scene.goTo(x, 999);
+        Check.same("three, of 7 days each", 7, x.waits(0, true));
+        x.rules(200, 30, 10, 0, 0);
+        x.hands(2, 1);
+        for (int i = 4; i < 24; i++) x.ask(i, 0, 1000, 0, false);
+        x.days(1);
+        Check.same("those of the last day are the latest: the least", 1, x.waits(0, false));
+        Check.same("those of the last day are the latest: the greatest", 1, x.waits(0, true));
+        Check.same("from the first day to the last one", 1000, x.waits(1, true));
+        Check.same("from the first day to the last one", 1000, x.waits(1, false));
     }
 
     private static void promise34Count() {
